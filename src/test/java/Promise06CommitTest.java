@@ -4,7 +4,7 @@ public final class Promise06CommitTest {
         wrongParents();
         twelveAreHeld();
         fortyNumbersAreGiven();
-        fortyNumbersWithOneHeld();
+        fortyNumbersWithNoneHeld();
         Run.end();
     }
 
@@ -50,7 +50,7 @@ public final class Promise06CommitTest {
             .due("checkout(39)", 2).reads(39, 7).due("checkout(29)", 2).reads(29, 7).due("parent(29)", -2);
     }
 
-    private static void fortyNumbersWithOneHeld() {
+    private static void fortyNumbersWithNoneHeld() {
         Run run = new Run("forty numbers, with none held");
         for (int number = 0; number < 40; number++) {
             run.due("commit(-1)", number).due("remove(" + number + ")", 0);
