@@ -99,8 +99,8 @@ public final class RevisionStore {
         if (!isHeld(revision)) {
             return REFUSED;
         }
-        for (int child = 0; child < givenNumbers; child++) {
-            if (parents[child] == revision) {
+        for (int child = 0; child < MAX_NUMBERS; child++) {
+            if (held[child] && parents[child] == revision) {
                 parents[child] = parents[revision];
             }
         }
@@ -135,7 +135,7 @@ public final class RevisionStore {
             return REFUSED;
         }
         int forebear = a;
-        for (int step = 0; step < MAX_HELD && forebear != NO_REVISION; step++) {
+        for (int step = 0; step < MAX_HELD && isHeld(forebear); step++) {
             if (isInRowOf(forebear, b)) {
                 return forebear;
             }
@@ -145,7 +145,7 @@ public final class RevisionStore {
     }
 
     public int find() {
-        for (int number = 0; number < givenNumbers; number++) {
+        for (int number = 0; number < MAX_NUMBERS; number++) {
             if (held[number] && isSameText(WORKING, number)) {
                 return number;
             }
@@ -160,7 +160,7 @@ public final class RevisionStore {
     // A row holds each revision at most once, so it ends within as many steps as revisions can be held.
     private boolean isInRowOf(int sought, int revision) {
         int forebear = revision;
-        for (int step = 0; step < MAX_HELD && forebear != NO_REVISION; step++) {
+        for (int step = 0; step < MAX_HELD && isHeld(forebear); step++) {
             if (forebear == sought) {
                 return true;
             }
@@ -178,10 +178,11 @@ public final class RevisionStore {
     }
 
     private boolean isSameText(int one, int other) {
-        if (lengths[one] != lengths[other]) {
+        int count = lengths[one];
+        if (count != lengths[other]) {
             return false;
         }
-        for (int i = 0; i < lengths[one]; i++) {
+        for (int i = 0; i < count; i++) {
             if (cells[one * MAX_LINES + i] != cells[other * MAX_LINES + i]) {
                 return false;
             }

@@ -1,13 +1,52 @@
+/** Above each test stands the sentence of the document that it tests. */
 public final class Promise05LineTest {
     public static void main(String[] args) {
-        new Run("line of an empty text").refused("line(0)").refused("line(-1)").refused("line(10)");
-        new Run("every place of a full text").write(9, 8, 7, 6, 5, 4, 3, 2, 0, 255)
-            .due("line(0)", 9).due("line(4)", 5).due("line(8)", 0).due("line(9)", 255)
-            .refused("line(10)").refused("line(-1)").refused("line(2147483647)").refused("line(-2147483648)");
+        everyPlace();
+        placeTooSmall();
+        placeTooLarge();
+        emptyText();
+        placesOfEarlierTexts();
+        Run.end();
+    }
+
+    // "The line of the working text at the place": also the first, the last, the least and the greatest
+    private static void everyPlace() {
+        new Run("every place of a full text").write(0, 8, 7, 6, 5, 4, 3, 2, 0, 255)
+            .due("line(0)", 0).due("line(1)", 8).due("line(2)", 7).due("line(3)", 6).due("line(4)", 5)
+            .due("line(5)", 4).due("line(6)", 3).due("line(7)", 2).due("line(8)", 0).due("line(9)", 255)
+            .due("lines()", 10);
+        new Run("the only place of one").write(5).due("line(0)", 5);
+    }
+
+    // "-1 if there is none": too small
+    private static void placeTooSmall() {
+        new Run("place too small").write(1, 2, 3)
+            .refused("line(-1)").refused("line(-2)").refused("line(-10)").refused("line(-2147483648)");
+        // A line of the last revision stands just before the working text if both share an array.
+        Run run = new Run("place too small, with the last number held").write(1, 2, 3, 4, 5, 6, 7, 8, 9, 10);
+        for (int number = 0; number < 39; number++) {
+            run.due("commit(-1)", number).due("remove(" + number + ")", 0);
+        }
+        run.due("commit(-1)", 39).due("line(-1)", -1).due("line(-10)", -1).due("take(-1)", -1);
+    }
+
+    // "-1 if there is none": too large
+    private static void placeTooLarge() {
+        new Run("place too large").write(1, 2, 3)
+            .refused("line(3)").refused("line(4)").refused("line(9)").refused("line(10)").refused("line(2147483647)");
+        new Run("behind ten lines").write(1, 2, 3, 4, 5, 6, 7, 8, 9, 10).refused("line(10)").refused("line(11)");
+    }
+
+    // "-1 if there is none": an empty text
+    private static void emptyText() {
+        new Run("an empty text").refused("line(0)").refused("line(-1)").refused("line(1)").refused("line(10)");
+    }
+
+    // "-1 if there is none": where there was one before
+    private static void placesOfEarlierTexts() {
         new Run("a place behind the last line").write(1, 2, 3).due("take(2)", 3)
             .due("line(1)", 2).refused("line(2)").refused("line(3)");
         new Run("a place that a longer text had before").due("commit(-1)", 0).write(1, 2)
-            .due("checkout(0)", 0).due("line(0)", -1).due("line(1)", -1);
-        Run.end();
+            .due("checkout(0)", 0).refused("line(0)").refused("line(1)");
     }
 }

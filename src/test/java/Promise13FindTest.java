@@ -1,33 +1,88 @@
+/** Above each test stands the sentence of the document that it tests. */
 public final class Promise13FindTest {
     public static void main(String[] args) {
-        new Run("the least of several").write(1, 2).due("find()", -1)
-            .due("commit(-1)", 0).due("find()", 0).write(1).due("find()", -1).due("commit(0)", 1)
-            .due("find()", 1).due("commit(1)", 2).due("find()", 1).write(1, 2).due("commit(2)", 3)
-            .due("find()", 0).reads(1, 2)
-            .due("remove(0)", 3).due("find()", 3).due("remove(3)", 2).due("find()", -1)
-            .due("checkout(2)", 1).due("find()", 1).due("remove(1)", 1).due("find()", 2);
-        new Run("the empty text").due("find()", -1).write(1).due("commit(-1)", 0).write().due("find()", -1)
-            .due("commit(0)", 1).due("find()", 1).due("put(0, 0)", 1).due("find()", -1);
-        new Run("texts that are nearly equal").write(1, 2, 3).due("commit(-1)", 0)
-            .write(1, 2).due("find()", -1).write(1, 2, 3, 3).due("find()", -1).write(3, 2, 1).due("find()", -1)
-            .write(1, 2, 4).due("find()", -1).write(0, 2, 3).due("find()", -1).write(1, 2, 3).due("find()", 0);
-        new Run("full texts that differ in the last line").write(1, 2, 3, 4, 5, 6, 7, 8, 9, 10).due("commit(-1)", 0)
-            .due("take(9)", 10).due("find()", -1).due("put(9, 11)", 10).due("find()", -1)
-            .due("commit(0)", 1).due("find()", 1).due("take(9)", 11).due("put(9, 10)", 10).due("find()", 0);
-
-        Run last = new Run("the last number").write(5);
-        for (int number = 0; number < 40; number++) {
-            last.due("commit(-1)", number).due("find()", number).due("remove(" + number + ")", 0);
-            if (number == 38) {
-                last.write(5, 5);
-            }
-        }
-        last.due("find()", -1).due("lines()", 2);
-        Run held = new Run("the last number, held").write(5);
-        for (int number = 0; number < 39; number++) {
-            held.due("commit(-1)", number).due("remove(" + number + ")", 0);
-        }
-        held.due("commit(-1)", 39).due("find()", 39);
+        leastNumber();
+        ofThoseHeld();
+        noneHeld();
+        noneEqual();
+        emptyText();
+        fullText();
+        leastAndGreatestLine();
+        twelveHeld();
+        everyNumber();
         Run.end();
+    }
+
+    // "The least number of the revision, of those held, whose text is equal to the working text"
+    private static void leastNumber() {
+        new Run("the least of several").write(1, 2).due("commit(-1)", 0).due("find()", 0)
+            .write(1).due("commit(0)", 1).due("find()", 1).due("commit(1)", 2).due("find()", 1)
+            .write(1, 2).due("commit(2)", 3).due("find()", 0).reads(1, 2);
+    }
+
+    // "of those held": not of those removed
+    private static void ofThoseHeld() {
+        new Run("removed ones are not found").write(1, 2).due("commit(-1)", 0).due("commit(0)", 1).due("commit(1)", 2)
+            .due("find()", 0).due("remove(0)", 2).due("find()", 1).due("remove(2)", 1).due("find()", 1)
+            .due("remove(1)", 0).due("find()", -1).due("commit(-1)", 3).due("find()", 3);
+    }
+
+    // "-1 if there is none": no revision is held
+    private static void noneHeld() {
+        new Run("none made yet").refused("find()").write(1).refused("find()");
+        new Run("all removed").due("commit(-1)", 0).due("remove(0)", 0).refused("find()");
+    }
+
+    // "-1 if there is none": texts that are nearly equal
+    private static void noneEqual() {
+        new Run("texts that are nearly equal").write(1, 2, 3).due("commit(-1)", 0)
+            .write(1, 2).refused("find()").write(1, 2, 3, 3).refused("find()").write(3, 2, 1).refused("find()")
+            .write(1, 2, 4).refused("find()").write(0, 2, 3).refused("find()").write(1, 2, 3).due("find()", 0);
+    }
+
+    // "whose text is equal to the working text": both without lines
+    private static void emptyText() {
+        new Run("the empty text").write(1).due("commit(-1)", 0).write().refused("find()")
+            .due("commit(0)", 1).due("find()", 1).due("put(0, 0)", 1).refused("find()")
+            .due("take(0)", 0).due("find()", 1);
+    }
+
+    // "whose text is equal to the working text": both of ten lines
+    private static void fullText() {
+        new Run("full texts that differ in the last line").write(1, 2, 3, 4, 5, 6, 7, 8, 9, 10).due("commit(-1)", 0)
+            .due("take(9)", 10).refused("find()").due("put(9, 11)", 10).refused("find()")
+            .due("commit(0)", 1).due("find()", 1).due("take(9)", 11).due("put(9, 10)", 10).due("find()", 0);
+        new Run("full texts that differ in the first line").write(1, 2, 3, 4, 5, 6, 7, 8, 9, 10).due("commit(-1)", 0)
+            .due("take(0)", 1).due("put(0, 0)", 10).refused("find()").due("take(0)", 0).due("put(0, 1)", 10)
+            .due("find()", 0);
+    }
+
+    // "whose text is equal to the working text": lines at both ends of what a line can be
+    private static void leastAndGreatestLine() {
+        new Run("lines 0 and 255").write(0).due("commit(-1)", 0).write(255).refused("find()").due("commit(-1)", 1)
+            .due("find()", 1).write(0).due("find()", 0).write(128).refused("find()");
+    }
+
+    // "of those held": the first and the last of twelve
+    private static void twelveHeld() {
+        Run run = new Run("twelve held");
+        for (int number = 0; number < 12; number++) {
+            run.write(number).due("commit(-1)", number);
+        }
+        run.due("find()", 11).write(0).due("find()", 0).write(6).due("find()", 6).write(12).refused("find()");
+    }
+
+    // "The least number": whichever of the forty it is
+    private static void everyNumber() {
+        Run run = new Run("numbers 0 to 39").write(5);
+        for (int number = 0; number < 40; number++) {
+            run.due("commit(-1)", number).due("find()", number);
+            run.due("remove(" + number + ")", 0).due("find()", -1);
+        }
+        Run two = new Run("38 and 39 held").write(5);
+        for (int number = 0; number < 38; number++) {
+            two.due("commit(-1)", number).due("remove(" + number + ")", 0);
+        }
+        two.due("commit(-1)", 38).due("commit(38)", 39).due("find()", 38).due("remove(38)", 1).due("find()", 39);
     }
 }

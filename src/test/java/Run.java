@@ -1,51 +1,52 @@
 import java.util.ArrayList;
 import java.util.List;
 
-/**
- * A run of calls on one new object. A call is written as the document and the issues write it,
- * such as "put(0, 10)", so that a told fault can be copied into a test as it stands.
- */
+/** A run of calls on one new object, each with the answer that is due. Its name says which sentence it tests. */
 final class Run {
-    // The document frees every answer after this many calls, so a test that makes more proves nothing.
-    private static final int MOST_CALLS = 512;
-
     private static int wrong = 0;
 
-    private final RevisionStore store = new RevisionStore();
+    private final Counted object = new Counted();
+    private final List<Call> notRefused = new ArrayList<>();
     private final String name;
-    private int calls = 0;
+    private List<String> due;
 
     Run(String name) {
         this.name = name;
     }
 
     Run due(String call, int want) {
-        int got = call(call);
-        if (got != want) {
-            wrong(call + " answered " + got + ", due is " + want);
-        }
+        notRefused.add(Call.read(call));
+        due = null;
+        answerDue(call, want);
         return this;
     }
 
-    /** The call is refused with -1 and nothing that can be asked about the first numbers changes. */
+    /** The call answers -1, and the object stays as one on which it was never made. */
     Run refused(String call) {
-        List<Integer> before = look();
-        due(call, -1);
-        List<Integer> after = look();
-        if (!before.equals(after)) {
-            wrong(call + " changed the state from " + before + " to " + after);
+        answerDue(call, -1);
+        if (due == null) {
+            due = Portrait.after(notRefused);
+        }
+        List<String> got = Portrait.after(object.made());
+        if (!got.equals(due)) {
+            wrong(call + " changed something: " + Portrait.difference(due, got));
         }
         return this;
     }
 
     /** Empties the working text and puts these lines in. */
     Run write(int... lines) {
-        for (int left = call("lines()"); left > 0; left--) {
-            call("take(0)");
+        Call askLines = Call.read("lines()");
+        notRefused.add(askLines);
+        for (int left = object.make(askLines); left > 0; left--) {
+            Call takeFirst = Call.read("take(0)");
+            notRefused.add(takeFirst);
+            object.make(takeFirst);
         }
         for (int i = 0; i < lines.length; i++) {
             due("put(" + i + ", " + lines[i] + ")", i + 1);
         }
+        due = null;
         return this;
     }
 
@@ -58,19 +59,9 @@ final class Run {
         return due("line(" + lines.length + ")", -1);
     }
 
-    int call(String call) {
-        calls++;
-        if (calls > MOST_CALLS) {
-            throw new IllegalStateException(name + ": more calls than the document allows");
-        }
-        int open = call.indexOf('(');
-        String inside = call.substring(open + 1, call.length() - 1).trim();
-        String[] parts = inside.isEmpty() ? new String[0] : inside.split(",");
-        int[] given = new int[parts.length];
-        for (int i = 0; i < parts.length; i++) {
-            given[i] = Integer.parseInt(parts[i].trim());
-        }
-        return answer(call.substring(0, open), given);
+    /** How many calls have been made so far. */
+    int calls() {
+        return object.made().size();
     }
 
     static void wrong(String what, String where) {
@@ -86,40 +77,14 @@ final class Run {
         }
     }
 
+    private void answerDue(String call, int want) {
+        int got = object.make(Call.read(call));
+        if (got != want) {
+            wrong(call + " answered " + got + ", due is " + want);
+        }
+    }
+
     private void wrong(String what) {
-        wrong(what, name + ", call " + calls);
-    }
-
-    private int answer(String method, int[] given) {
-        switch (method + "/" + given.length) {
-            case "put/2": return store.put(given[0], given[1]);
-            case "take/1": return store.take(given[0]);
-            case "lines/0": return store.lines();
-            case "line/1": return store.line(given[0]);
-            case "commit/1": return store.commit(given[0]);
-            case "checkout/1": return store.checkout(given[0]);
-            case "remove/1": return store.remove(given[0]);
-            case "parent/1": return store.parent(given[0]);
-            case "distance/2": return store.distance(given[0], given[1]);
-            case "changed/1": return store.changed(given[0]);
-            case "base/2": return store.base(given[0], given[1]);
-            case "find/0": return store.find();
-            default: throw new IllegalArgumentException("no such call: " + method + "/" + given.length);
-        }
-    }
-
-    private List<Integer> look() {
-        List<Integer> seen = new ArrayList<>();
-        int lines = call("lines()");
-        seen.add(lines);
-        for (int place = 0; place < lines; place++) {
-            seen.add(call("line(" + place + ")"));
-        }
-        seen.add(call("find()"));
-        for (int revision = 0; revision < 4; revision++) {
-            seen.add(call("parent(" + revision + ")"));
-            seen.add(call("changed(" + revision + ")"));
-        }
-        return seen;
+        wrong(what, name + ", call " + calls());
     }
 }
