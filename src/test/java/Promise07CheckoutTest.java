@@ -30,6 +30,7 @@ public final class Promise07CheckoutTest {
     private static void fullText() {
         new Run("a full text").write(9, 8, 7, 6, 5, 4, 3, 2, 0, 255).due("commit(-1)", 0)
             .write().due("checkout(0)", 10).reads(9, 8, 7, 6, 5, 4, 3, 2, 0, 255)
+            .write(1, 1, 1, 1, 1, 1, 1, 1, 1, 1).due("checkout(0)", 10).reads(9, 8, 7, 6, 5, 4, 3, 2, 0, 255)
             .due("take(9)", 255).due("checkout(0)", 10).reads(9, 8, 7, 6, 5, 4, 3, 2, 0, 255)
             .refused("put(0, 1)");
     }
@@ -73,6 +74,6 @@ public final class Promise07CheckoutTest {
         new Run("checkout changes no revision").write(1).due("commit(-1)", 0).write(2).due("commit(0)", 1)
             .due("checkout(0)", 1).due("parent(0)", -2).due("parent(1)", 0).due("distance(0, 1)", 2)
             .due("put(0, 5)", 2).due("checkout(1)", 1).reads(2).due("checkout(0)", 1).reads(1)
-            .due("commit(1)", 2);
+            .due("parent(0)", -2).due("parent(1)", 0).due("commit(1)", 2);
     }
 }

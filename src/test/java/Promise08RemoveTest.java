@@ -45,6 +45,8 @@ public final class Promise08RemoveTest {
             .due("commit(-1)", 0).due("commit(-1)", 1).due("commit(0)", 2).due("commit(0)", 3).due("commit(1)", 4)
             .due("remove(0)", 4).due("parent(2)", -2).due("parent(3)", -2).due("parent(4)", 1)
             .due("parent(1)", -2).due("base(2, 3)", -2);
+        new Run("the first two numbers").due("commit(-1)", 0).due("commit(0)", 1)
+            .due("remove(0)", 1).due("parent(1)", -2);
     }
 
     // "Its children": there may be none

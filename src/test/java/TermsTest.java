@@ -206,7 +206,7 @@ public final class TermsTest {
     // "A call that names a revision that is not held answers -1 and changes nothing."
     private static void revisionsThatAreNotHeld() {
         int[] removedNextAndBeyond = {
-            1, 4, 5, 11, 12, 38, 39, 40, 41, 2147483647, -2, -3, -40, -2147483648, -1
+            2, 4, 5, 11, 12, 38, 39, 40, 41, 2147483647, -2, -3, -40, -2147483648, -1
         };
         for (int revision : removedNextAndBeyond) {
             eachCallThatNames(revision);
@@ -215,13 +215,13 @@ public final class TermsTest {
 
     private static void eachCallThatNames(int revision) {
         Run run = new Run("revision " + revision + " is not held").write(1, 2).due("commit(-1)", 0)
-            .due("put(1, 3)", 3).due("commit(0)", 1).due("take(0)", 1).due("commit(1)", 2).due("commit(0)", 3)
-            .due("put(0, 9)", 3).due("remove(1)", 3);
+            .due("put(1, 3)", 3).due("commit(0)", 1).due("take(0)", 1).due("commit(1)", 2).due("commit(2)", 3)
+            .due("put(0, 9)", 3).due("remove(2)", 3);
         run.refused("checkout(" + revision + ")").refused("remove(" + revision + ")")
             .refused("parent(" + revision + ")").refused("changed(" + revision + ")")
-            .refused("distance(" + revision + ", 2)").refused("distance(2, " + revision + ")")
+            .refused("distance(" + revision + ", 1)").refused("distance(1, " + revision + ")")
             .refused("distance(" + revision + ", " + revision + ")")
-            .refused("base(" + revision + ", 2)").refused("base(2, " + revision + ")")
+            .refused("base(" + revision + ", 1)").refused("base(1, " + revision + ")")
             .refused("base(" + revision + ", " + revision + ")");
         if (revision != -1) {
             run.refused("commit(" + revision + ")");
