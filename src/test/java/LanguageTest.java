@@ -1,4 +1,5 @@
 import com.sun.source.tree.AssertTree;
+import com.sun.source.tree.AssignmentTree;
 import com.sun.source.tree.BinaryTree;
 import com.sun.source.tree.BlockTree;
 import com.sun.source.tree.ClassTree;
@@ -52,6 +53,7 @@ public final class LanguageTest extends TreeScanner<Void, Void> {
 
     private final Map<String, Set<String>> calls = new TreeMap<>();
     private final Set<String> arrays = new HashSet<>();
+    private final Set<String> constants = new HashSet<>();
     private final CompilationUnitTree unit;
     private final Trees trees;
     private String method = "";
@@ -98,6 +100,7 @@ public final class LanguageTest extends TreeScanner<Void, Void> {
         if (member instanceof VariableTree) {
             VariableTree field = (VariableTree) member;
             if (field.getModifiers().getFlags().contains(Modifier.STATIC)) {
+                constants.add(field.getName().toString());
                 rule(5, field, field.getModifiers().getFlags().contains(Modifier.FINAL)
                     && Set.of("int", "long").contains(field.getType().toString()) && field.getInitializer() != null);
             } else {
@@ -164,8 +167,20 @@ public final class LanguageTest extends TreeScanner<Void, Void> {
     }
 
     @Override public Void visitNewArray(NewArrayTree tree, Void none) {
-        rule(4, tree, method.isEmpty() && tree.getDimensions().size() == 1 && tree.getInitializers() == null);
+        boolean isMadeByLength = tree.getDimensions().size() == 1 && tree.getInitializers() == null;
+        rule(4, tree, method.isEmpty() && isMadeByLength && isLength(tree.getDimensions().get(0)));
         return super.visitNewArray(tree, none);
+    }
+
+    // That the length is 1 or more is not looked at: an array without a place would be of no use.
+    private boolean isLength(ExpressionTree length) {
+        return length.getKind() == Tree.Kind.INT_LITERAL || constants.contains(length.toString());
+    }
+
+    @Override public Void visitAssignment(AssignmentTree tree, Void none) {
+        String target = tree.getVariable().toString();
+        rule(4, tree, !arrays.contains(target) && !arrays.contains(target.replaceFirst("^this\\.", "")));
+        return super.visitAssignment(tree, none);
     }
 
     @Override public Void visitIdentifier(IdentifierTree tree, Void none) {
@@ -207,8 +222,10 @@ public final class LanguageTest extends TreeScanner<Void, Void> {
         rule(8, tree, counts);
         if (counts) {
             String counter = ((VariableTree) tree.getInitializer().get(0)).getName().toString();
-            rule(8, tree, tree.getCondition().toString().matches(counter + " (<|<=|>|>=) [^|]*"));
-            rule(8, tree, tree.getUpdate().get(0).toString().matches(counter + "(\\+\\+|--);?"));
+            String condition = tree.getCondition().toString();
+            String update = tree.getUpdate().get(0).toString();
+            rule(8, tree, condition.matches(counter + " <=? [^|]*") && update.matches(counter + "\\+\\+;?")
+                || condition.matches(counter + " >=? [^|]*") && update.matches(counter + "--;?"));
             rule(8, tree, !tree.getStatement().toString().matches("(?s).*\\b" + counter + "( [-+*/]?= |\\+\\+|--).*"));
         }
         return super.visitForLoop(tree, none);

@@ -118,7 +118,7 @@ final class Model {
     }
 
     /** Tries every choice of lines of the one text that stay. */
-    private static int distance(List<Integer> one, List<Integer> other) {
+    static int distance(List<Integer> one, List<Integer> other) {
         int mostStay = 0;
         for (int choice = 0; choice < 1 << one.size(); choice++) {
             int stay = Integer.bitCount(choice);

@@ -46,7 +46,10 @@ public final class Promise01NewObjectTest {
     // A new object is as described, also when others were made and used before it
     private static void objectsShareNothing() {
         Run first = new Run("the first of two objects").write(1, 2).due("commit(-1)", 0);
-        new Run("the second of two objects").due("lines()", 0).due("parent(0)", -1).due("commit(-1)", 0);
-        first.reads(1, 2).due("checkout(0)", 2).due("commit(0)", 1);
+        Run second = new Run("the second of two objects").due("lines()", 0).due("parent(0)", -1)
+            .write(8, 9, 8).due("commit(-1)", 0).due("commit(-1)", 1);
+        first.reads(1, 2).due("commit(0)", 1).due("parent(1)", 0).due("distance(0, 1)", 0);
+        second.reads(8, 9, 8).due("parent(1)", -2).due("remove(0)", 1).due("checkout(1)", 3).reads(8, 9, 8);
+        first.due("parent(0)", -2).due("remove(1)", 1).due("checkout(0)", 2).reads(1, 2);
     }
 }

@@ -2,6 +2,8 @@
 public final class Promise02PutTest {
     public static void main(String[] args) {
         lineStandsAtThePlace();
+        everyPlaceOfEveryText();
+        everyLine();
         leastAndGreatestLine();
         lineTooSmall();
         lineTooLarge();
@@ -23,6 +25,23 @@ public final class Promise02PutTest {
             .due("put(1, 7)", 4).reads(5, 7, 10, 20)
             .due("put(3, 15)", 5).reads(5, 7, 10, 15, 20)
             .due("put(2, 7)", 6).reads(5, 7, 7, 10, 15, 20);
+    }
+
+    // "so that it stands at the place": whichever it is, and however many lines there are
+    private static void everyPlaceOfEveryText() {
+        for (int count = 0; count < 10; count++) {
+            for (int place = 0; place <= count; place++) {
+                new Run("place " + place + " of " + count + " lines").write(Texts.count(count))
+                    .due("put(" + place + ", 99)", count + 1).reads(Texts.with(Texts.count(count), place, 99));
+            }
+        }
+    }
+
+    // "Puts a line": whichever it is
+    private static void everyLine() {
+        for (int line = 0; line <= 255; line++) {
+            new Run("line " + line).due("put(0, " + line + ")", 1).reads(line);
+        }
     }
 
     // "-1 [...] if line is not from 0 to 255": both ends are lines

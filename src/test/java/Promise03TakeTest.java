@@ -2,6 +2,7 @@
 public final class Promise03TakeTest {
     public static void main(String[] args) {
         lineIsTakenOut();
+        everyPlaceOfEveryText();
         firstAndLastPlace();
         placeTooSmall();
         placeTooLarge();
@@ -18,6 +19,16 @@ public final class Promise03TakeTest {
             .due("take(3)", 50).reads(20, 30, 40)
             .due("take(1)", 30).reads(20, 40)
             .due("take(1)", 40).due("take(0)", 20).reads();
+    }
+
+    // "the line at the place": whichever it is, and however many lines there are
+    private static void everyPlaceOfEveryText() {
+        for (int count = 1; count <= 10; count++) {
+            for (int place = 0; place < count; place++) {
+                new Run("place " + place + " of " + count + " lines").write(Texts.count(count))
+                    .due("take(" + place + ")", place + 1).reads(Texts.without(Texts.count(count), place));
+            }
+        }
     }
 
     // "-1 [...] if there is no such line": there is one at both ends, in a full text too
@@ -56,6 +67,9 @@ public final class Promise03TakeTest {
     // "Otherwise answers the line."
     private static void answersTheLine() {
         new Run("the least and the greatest line").write(0, 255).due("take(0)", 0).due("take(0)", 255).reads();
+        for (int line = 0; line <= 255; line++) {
+            new Run("line " + line).due("put(0, " + line + ")", 1).due("take(0)", line);
+        }
     }
 
     // "a text that never changes"

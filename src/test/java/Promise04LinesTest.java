@@ -4,6 +4,7 @@ public final class Promise04LinesTest {
         followsPutAndTake();
         staysAtRefusedCalls();
         followsCheckout();
+        asksOnly();
         Run.end();
     }
 
@@ -35,5 +36,12 @@ public final class Promise04LinesTest {
         new Run("checkout of an empty and of a full text").due("commit(-1)", 0)
             .write(1, 2, 3, 4, 5, 6, 7, 8, 9, 10).due("commit(-1)", 1)
             .due("checkout(0)", 0).due("lines()", 0).due("checkout(1)", 10).due("lines()", 10);
+    }
+
+    // "Nothing is promised beyond the answers and state changes described above": this call has none
+    private static void asksOnly() {
+        new Run("lines changes nothing").asked("lines()", 0).write(1, 2, 3).due("commit(-1)", 0)
+            .due("take(0)", 1).due("commit(0)", 1).asked("lines()", 2)
+            .write(1, 2, 3, 4, 5, 6, 7, 8, 9, 10).asked("lines()", 10).asked("lines()", 10);
     }
 }

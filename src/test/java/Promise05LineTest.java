@@ -6,6 +6,9 @@ public final class Promise05LineTest {
         placeTooLarge();
         emptyText();
         placesOfEarlierTexts();
+        everyPlaceOfEveryText();
+        everyLine();
+        asksOnly();
         Run.end();
     }
 
@@ -48,5 +51,29 @@ public final class Promise05LineTest {
             .due("line(1)", 2).refused("line(2)").refused("line(3)");
         new Run("a place that a longer text had before").due("commit(-1)", 0).write(1, 2)
             .due("checkout(0)", 0).refused("line(0)").refused("line(1)");
+    }
+
+    // "The line [...] at the place; -1 if there is none.": however many lines there are
+    private static void everyPlaceOfEveryText() {
+        for (int count = 0; count <= 10; count++) {
+            Run run = new Run(count + " lines").write(Texts.count(count));
+            for (int place = -11; place <= 21; place++) {
+                run.due("line(" + place + ")", place >= 0 && place < count ? place + 1 : -1);
+            }
+        }
+    }
+
+    // "The line of the working text": whichever it is
+    private static void everyLine() {
+        for (int line = 0; line <= 255; line++) {
+            new Run("line " + line).due("put(0, " + line + ")", 1).due("line(0)", line).due("commit(-1)", 0)
+                .due("take(0)", line).due("checkout(0)", 1).due("line(0)", line);
+        }
+    }
+
+    // "Nothing is promised beyond the answers and state changes described above": this call has none
+    private static void asksOnly() {
+        new Run("line changes nothing").write(7, 8, 9).due("commit(-1)", 0).due("commit(0)", 1)
+            .asked("line(0)", 7).asked("line(1)", 8).asked("line(2)", 9).asked("line(2)", 9).asked("line(3)", -1);
     }
 }

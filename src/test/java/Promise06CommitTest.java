@@ -1,7 +1,11 @@
+import java.util.Arrays;
+
 /** Above each test stands the sentence of the document that it tests. */
 public final class Promise06CommitTest {
     public static void main(String[] args) {
         revisionHasTextAndParent();
+        everySmallTree();
+        twelveTextsAndParents();
         emptyAndFullText();
         parentMinusOne();
         parentTooSmall();
@@ -24,6 +28,33 @@ public final class Promise06CommitTest {
             .due("checkout(3)", 3).reads(1, 2, 3);
     }
 
+    // "with the working text and the parent": whichever they are
+    private static void everySmallTree() {
+        for (int[] parents : Forests.of(4)) {
+            Run run = new Run("parents " + Arrays.toString(parents));
+            for (int number = 0; number < parents.length; number++) {
+                run.write(Texts.count(number * 3)).due("commit(" + parents[number] + ")", number)
+                    .reads(Texts.count(number * 3));
+            }
+            for (int number = 0; number < parents.length; number++) {
+                run.due("parent(" + number + ")", parents[number] < 0 ? -2 : parents[number]);
+                run.due("checkout(" + number + ")", number * 3).reads(Texts.count(number * 3));
+            }
+        }
+    }
+
+    // "with the working text and the parent": each of twelve has its own
+    private static void twelveTextsAndParents() {
+        Run run = new Run("twelve with their own texts");
+        for (int number = 0; number < 12; number++) {
+            run.write(number, 100 + number).due("commit(" + (number / 2 - 1) + ")", number).reads(number, 100 + number);
+        }
+        for (int number = 0; number < 12; number++) {
+            run.due("parent(" + number + ")", number < 2 ? -2 : number / 2 - 1);
+            run.due("checkout(" + number + ")", 2).reads(number, 100 + number);
+        }
+    }
+
     // "Makes a revision with the working text": of 0 and of 10 lines
     private static void emptyAndFullText() {
         new Run("an empty text, then a full one").due("commit(-1)", 0)
@@ -35,7 +66,8 @@ public final class Promise06CommitTest {
     private static void parentMinusOne() {
         new Run("parent -1, with none held").due("commit(-1)", 0).due("parent(0)", -2);
         new Run("parent -1, with others held").due("commit(-1)", 0).due("commit(-1)", 1).due("commit(1)", 2)
-            .due("commit(-1)", 3).due("parent(1)", -2).due("parent(3)", -2).due("base(3, 2)", -2);
+            .due("commit(-1)", 3).due("parent(1)", -2).due("parent(3)", -2).due("base(3, 2)", -2)
+            .due("parent(0)", -2).due("parent(2)", 1);
     }
 
     // "Answers -1 and changes nothing if parent is not -1 and not held": too small

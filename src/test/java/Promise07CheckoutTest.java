@@ -1,10 +1,14 @@
+import java.util.Arrays;
+
 /** Above each test stands the sentence of the document that it tests. */
 public final class Promise07CheckoutTest {
     public static void main(String[] args) {
         shorterAndLongerTexts();
+        everyLengthAfterEveryLength();
         emptyText();
         fullText();
         firstAndLastNumber();
+        everyNumber();
         revisionTooSmall();
         revisionTooLarge();
         revisionRemoved();
@@ -18,6 +22,17 @@ public final class Promise07CheckoutTest {
             .write(9, 8, 7, 6, 5).due("commit(0)", 1)
             .due("checkout(0)", 3).reads(1, 2, 3).due("checkout(1)", 5).reads(9, 8, 7, 6, 5)
             .due("checkout(1)", 5).reads(9, 8, 7, 6, 5).due("checkout(0)", 3).reads(1, 2, 3);
+    }
+
+    // "Makes the text of the revision the working text.": however many lines both had
+    private static void everyLengthAfterEveryLength() {
+        for (int before = 0; before <= 10; before++) {
+            for (int count = 0; count <= 10; count++) {
+                new Run(count + " lines after " + before).write(Texts.count(count)).due("commit(-1)", 0)
+                    .write().write(Arrays.copyOf(new int[] {9, 9, 9, 9, 9, 9, 9, 9, 9, 9}, before))
+                    .due("checkout(0)", count).reads(Texts.count(count));
+            }
+        }
     }
 
     // "Answers the number of its lines": 0
@@ -43,6 +58,16 @@ public final class Promise07CheckoutTest {
         }
         run.write(4, 5, 6).due("commit(0)", 39).write().due("checkout(39)", 3).reads(4, 5, 6)
             .due("checkout(0)", 2).reads(1, 2).refused("checkout(38)").refused("checkout(40)");
+    }
+
+    // "Makes the text of the revision the working text.": whichever of the forty it is
+    private static void everyNumber() {
+        Run run = new Run("numbers 0 to 39");
+        for (int number = 0; number < 40; number++) {
+            run.due("put(0, " + number + ")", 1).due("commit(-1)", number).due("take(0)", number);
+            run.due("checkout(" + number + ")", 1).due("line(0)", number).due("take(0)", number);
+            run.due("remove(" + number + ")", 0);
+        }
     }
 
     private static Run twoHeld(String name) {

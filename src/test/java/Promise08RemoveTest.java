@@ -1,12 +1,16 @@
+import java.util.Arrays;
+
 /** Above each test stands the sentence of the document that it tests. */
 public final class Promise08RemoveTest {
     public static void main(String[] args) {
         revisionIsRemoved();
         childrenGetTheParent();
+        everySmallTree();
         childrenOfARoot();
         noChildren();
         mostChildren();
         lastNumbers();
+        everyNumber();
         textsStay();
         fromTwelveToNone();
         firstAndLastNumber();
@@ -35,8 +39,26 @@ public final class Promise08RemoveTest {
             .due("remove(3)", 4).due("parent(4)", 0);
         new Run("one after the other, from below and from above")
             .due("commit(-1)", 0).due("commit(0)", 1).due("commit(1)", 2).due("commit(2)", 3)
-            .due("remove(2)", 3).due("remove(1)", 2).due("parent(3)", 0)
+            .due("remove(2)", 3).due("parent(3)", 1).due("remove(1)", 2).due("parent(3)", 0)
             .due("remove(0)", 1).due("parent(3)", -2).due("remove(3)", 0).due("parent(3)", -1);
+    }
+
+    // "Its children get its parent as their parent": and no other revision does
+    private static void everySmallTree() {
+        for (int[] parents : Forests.of(5)) {
+            for (int removed = 0; removed < parents.length; removed++) {
+                Run run = new Run("parents " + Arrays.toString(parents) + " without " + removed);
+                for (int number = 0; number < parents.length; number++) {
+                    run.due("commit(" + parents[number] + ")", number);
+                }
+                run.due("remove(" + removed + ")", parents.length - 1);
+                int[] left = Forests.without(parents, removed);
+                for (int number = 0; number < parents.length; number++) {
+                    int due = number == removed ? -1 : left[number] < 0 ? -2 : left[number];
+                    run.due("parent(" + number + ")", due);
+                }
+            }
+        }
     }
 
     // "(or none if it has none)"
@@ -44,7 +66,7 @@ public final class Promise08RemoveTest {
         new Run("a revision without a parent")
             .due("commit(-1)", 0).due("commit(-1)", 1).due("commit(0)", 2).due("commit(0)", 3).due("commit(1)", 4)
             .due("remove(0)", 4).due("parent(2)", -2).due("parent(3)", -2).due("parent(4)", 1)
-            .due("parent(1)", -2).due("base(2, 3)", -2);
+            .due("parent(1)", -2).due("base(2, 3)", -2).due("remove(1)", 3).due("parent(4)", -2);
         new Run("the first two numbers").due("commit(-1)", 0).due("commit(0)", 1)
             .due("remove(0)", 1).due("parent(1)", -2);
     }
@@ -80,6 +102,16 @@ public final class Promise08RemoveTest {
         }
         run.due("commit(0)", 38).due("commit(38)", 39).due("remove(38)", 2).due("parent(39)", 0)
             .due("remove(39)", 1).due("parent(0)", -2).due("remove(0)", 0);
+    }
+
+    // "Its children get its parent": whichever of the forty they are
+    private static void everyNumber() {
+        Run run = new Run("numbers 0 to 39").due("commit(-1)", 0).due("commit(0)", 1);
+        for (int number = 2; number < 40; number++) {
+            run.due("commit(" + (number - 1) + ")", number).due("parent(" + number + ")", number - 1);
+            run.due("remove(" + (number - 1) + ")", 2).due("parent(" + number + ")", 0);
+        }
+        run.due("remove(0)", 1).due("parent(39)", -2);
     }
 
     // "their texts stay as they are"

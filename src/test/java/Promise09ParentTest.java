@@ -1,3 +1,5 @@
+import java.util.Arrays;
+
 /** Above each test stands the sentence of the document that it tests. */
 public final class Promise09ParentTest {
     public static void main(String[] args) {
@@ -6,9 +8,12 @@ public final class Promise09ParentTest {
         none();
         noneAfterRemove();
         lastNumber();
+        everyNumber();
         revisionTooSmall();
         revisionTooLarge();
         revisionRemoved();
+        everySmallTree();
+        asksOnly();
         Run.end();
     }
 
@@ -48,6 +53,16 @@ public final class Promise09ParentTest {
             .due("remove(38)", 1).due("parent(39)", -2);
     }
 
+    // "The parent of the revision; -2 if it has none": whichever of the forty they are
+    private static void everyNumber() {
+        Run run = new Run("numbers 0 to 39").due("commit(-1)", 0).due("parent(0)", -2);
+        for (int number = 1; number < 40; number++) {
+            run.due("commit(" + (number - 1) + ")", number).due("parent(" + number + ")", number - 1);
+            run.due("remove(" + (number - 1) + ")", 1).due("parent(" + number + ")", -2);
+            run.due("parent(" + (number - 1) + ")", -1);
+        }
+    }
+
     private static Run twoHeld(String name) {
         return new Run(name).write(1).due("commit(-1)", 0).due("commit(0)", 1);
     }
@@ -70,5 +85,24 @@ public final class Promise09ParentTest {
         new Run("revision removed").due("commit(-1)", 0).due("commit(0)", 1).due("remove(1)", 1)
             .refused("parent(1)").due("commit(0)", 2).refused("parent(1)").due("parent(2)", 0)
             .due("remove(0)", 1).refused("parent(0)").refused("parent(1)").due("parent(2)", -2);
+    }
+
+    // "The parent of the revision; -2 if it has none": whichever it is
+    private static void everySmallTree() {
+        for (int[] parents : Forests.of(5)) {
+            Run run = new Run("parents " + Arrays.toString(parents));
+            for (int number = 0; number < parents.length; number++) {
+                run.due("commit(" + parents[number] + ")", number);
+            }
+            for (int number = 0; number < parents.length; number++) {
+                run.due("parent(" + number + ")", parents[number] < 0 ? -2 : parents[number]);
+            }
+        }
+    }
+
+    // "Nothing is promised beyond the answers and state changes described above": this call has none
+    private static void asksOnly() {
+        twoHeld("parent changes nothing").due("commit(1)", 2).due("put(0, 2)", 2)
+            .asked("parent(0)", -2).asked("parent(1)", 0).asked("parent(2)", 1).asked("parent(2)", 1);
     }
 }

@@ -8,10 +8,14 @@ public final class Promise10DistanceTest {
         sameRevisionTwice();
         oneObjectManyTexts();
         lastNumber();
+        everyNumber();
         firstNotHeld();
         secondNotHeld();
         bothNotHeld();
         oneRemoved();
+        everyPairOfSmallTexts();
+        linesThatDifferLittle();
+        asksOnly();
         Run.end();
     }
 
@@ -84,6 +88,16 @@ public final class Promise10DistanceTest {
             .refused("distance(39, 40)").refused("distance(38, 39)");
     }
 
+    // "of the two revisions": whichever of the forty they are
+    private static void everyNumber() {
+        Run run = new Run("numbers 0 to 39").write(1, 2).due("commit(-1)", 0).write(2, 3, 4).due("distance(0, 0)", 0);
+        for (int number = 1; number < 40; number++) {
+            run.due("commit(-1)", number).due("distance(0, " + number + ")", 3);
+            run.due("distance(" + number + ", 0)", 3).due("distance(" + number + ", " + number + ")", 0);
+            run.due("remove(" + number + ")", 1);
+        }
+    }
+
     private static Run twoHeld(String name) {
         return new Run(name).write(1).due("commit(-1)", 0).due("commit(0)", 1);
     }
@@ -113,5 +127,30 @@ public final class Promise10DistanceTest {
     private static void oneRemoved() {
         twoHeld("one was removed").due("remove(0)", 1).refused("distance(0, 1)").refused("distance(1, 0)")
             .refused("distance(0, 0)").due("distance(1, 1)", 0);
+    }
+
+    // "The distance of the texts": as found by trying every choice of lines that stay
+    private static void everyPairOfSmallTexts() {
+        for (int[] one : Texts.small()) {
+            for (int[] other : Texts.small()) {
+                texts(Model.distance(Texts.list(one), Texts.list(other)), one, other);
+            }
+        }
+    }
+
+    // "all other lines stay": only lines that are equal in all their bits can
+    private static void linesThatDifferLittle() {
+        for (int bit = 1; bit <= 128; bit *= 2) {
+            texts(2, new int[] {0}, new int[] {bit});
+            texts(2, new int[] {255}, new int[] {255 - bit});
+            texts(4, new int[] {7, bit, 7, 0, 7}, new int[] {7, 0, 7, bit, 7});
+        }
+    }
+
+    // "Nothing is promised beyond the answers and state changes described above": this call has none
+    private static void asksOnly() {
+        new Run("distance changes nothing").write(1, 2, 3).due("commit(-1)", 0).write(3, 4).due("commit(0)", 1)
+            .write(5, 6, 7, 8).asked("distance(0, 1)", 3).asked("distance(1, 0)", 3).asked("distance(1, 1)", 0)
+            .asked("distance(0, 1)", 3);
     }
 }

@@ -5,9 +5,13 @@ public final class Promise11ChangedTest {
         emptyTexts();
         fullTexts();
         firstAndLastNumber();
+        everyNumber();
         revisionTooSmall();
         revisionTooLarge();
         revisionRemoved();
+        everyPairOfSmallTexts();
+        linesThatDifferLittle();
+        asksOnly();
         Run.end();
     }
 
@@ -46,6 +50,16 @@ public final class Promise11ChangedTest {
             .write(8, 8).due("changed(39)", 4).due("changed(0)", 5).refused("changed(40)").refused("changed(38)");
     }
 
+    // "the text of the revision": whichever of the forty it is
+    private static void everyNumber() {
+        Run run = new Run("numbers 0 to 39").write(1, 2);
+        for (int number = 0; number < 40; number++) {
+            run.due("commit(-1)", number).due("changed(" + number + ")", 0);
+            run.due("put(1, 9)", 3).due("changed(" + number + ")", 1).due("take(1)", 9);
+            run.due("remove(" + number + ")", 0);
+        }
+    }
+
     private static Run twoHeld(String name) {
         return new Run(name).write(1).due("commit(-1)", 0).due("commit(0)", 1).write(2);
     }
@@ -67,5 +81,30 @@ public final class Promise11ChangedTest {
     private static void revisionRemoved() {
         twoHeld("revision removed").due("remove(0)", 1).refused("changed(0)").due("changed(1)", 2)
             .due("remove(1)", 0).refused("changed(1)");
+    }
+
+    // "The distance of the working text and the text": as found by trying every choice of lines that stay
+    private static void everyPairOfSmallTexts() {
+        for (int[] text : Texts.small()) {
+            for (int[] working : Texts.small()) {
+                int due = Model.distance(Texts.list(text), Texts.list(working));
+                new Run("texts of distance " + due).write(text).due("commit(-1)", 0).write(working)
+                    .due("changed(0)", due);
+            }
+        }
+    }
+
+    // "all other lines stay": only lines that are equal in all their bits can
+    private static void linesThatDifferLittle() {
+        for (int bit = 1; bit <= 128; bit *= 2) {
+            new Run("lines that differ by " + bit).write(0).due("commit(-1)", 0).write(bit).due("changed(0)", 2)
+                .write(7, 0).due("changed(0)", 1).write(bit, 7).due("changed(0)", 3);
+        }
+    }
+
+    // "Nothing is promised beyond the answers and state changes described above": this call has none
+    private static void asksOnly() {
+        twoHeld("changed changes nothing").due("commit(1)", 2).due("put(1, 1)", 2)
+            .asked("changed(0)", 1).asked("changed(1)", 1).asked("changed(2)", 1).asked("changed(2)", 1);
     }
 }

@@ -1,3 +1,6 @@
+import java.util.Arrays;
+import java.util.List;
+
 /** Above each test stands the sentence of the document that it tests. */
 public final class Promise12BaseTest {
     public static void main(String[] args) {
@@ -11,10 +14,13 @@ public final class Promise12BaseTest {
         longRowsThatMeetAtTheRoot();
         longRowsThatDoNotMeet();
         lastNumbers();
+        everyNumber();
         firstNotHeld();
         secondNotHeld();
         bothNotHeld();
         oneRemoved();
+        everySmallTree();
+        asksOnly();
         Run.end();
     }
 
@@ -106,6 +112,15 @@ public final class Promise12BaseTest {
             .due("remove(0)", 2).due("base(38, 39)", -2);
     }
 
+    // "The last common forebear of two revisions": whichever of the forty they are
+    private static void everyNumber() {
+        Run run = new Run("numbers 0 to 39").due("commit(-1)", 0).due("base(0, 0)", 0);
+        for (int number = 1; number < 40; number++) {
+            run.due("commit(0)", number).due("base(" + number + ", 0)", 0).due("base(0, " + number + ")", 0);
+            run.due("base(" + number + ", " + number + ")", number).due("remove(" + number + ")", 1);
+        }
+    }
+
     private static Run twoHeld(String name) {
         return new Run(name).due("commit(-1)", 0).due("commit(0)", 1);
     }
@@ -137,5 +152,30 @@ public final class Promise12BaseTest {
             .refused("base(1, 1)").due("base(0, 0)", 0);
         twoHeld("the parent was removed").due("remove(0)", 1).refused("base(1, 0)").refused("base(0, 1)")
             .refused("base(0, 0)").due("base(1, 1)", 1);
+    }
+
+    // "the one that is in both rows and stands first in that of a. -2 if there is none"
+    private static void everySmallTree() {
+        for (int[] parents : Forests.of(5)) {
+            Run run = new Run("parents " + Arrays.toString(parents));
+            for (int number = 0; number < parents.length; number++) {
+                run.due("commit(" + parents[number] + ")", number);
+            }
+            for (int a = 0; a < parents.length; a++) {
+                for (int b = 0; b < parents.length; b++) {
+                    List<Integer> both = Forests.row(parents, a);
+                    both.retainAll(Forests.row(parents, b));
+                    run.due("base(" + a + ", " + b + ")", both.isEmpty() ? -2 : both.get(0));
+                }
+            }
+        }
+    }
+
+    // "Nothing is promised beyond the answers and state changes described above": this call has none
+    private static void asksOnly() {
+        new Run("base changes nothing").write(1, 2).due("commit(-1)", 0).due("commit(0)", 1).due("put(0, 3)", 3)
+            .due("commit(0)", 2).due("commit(-1)", 3).due("put(0, 4)", 4)
+            .asked("base(1, 2)", 0).asked("base(2, 0)", 0).asked("base(2, 2)", 2)
+            .asked("base(3, 2)", -2).asked("base(2, 3)", -2).asked("base(1, 2)", 0);
     }
 }

@@ -1,3 +1,5 @@
+import java.util.Arrays;
+
 /** Above each test stands the sentence of the document that it tests. */
 public final class Promise13FindTest {
     public static void main(String[] args) {
@@ -10,6 +12,9 @@ public final class Promise13FindTest {
         leastAndGreatestLine();
         twelveHeld();
         everyNumber();
+        everyPairOfSmallTexts();
+        linesThatDifferLittle();
+        asksOnly();
         Run.end();
     }
 
@@ -84,5 +89,34 @@ public final class Promise13FindTest {
             two.due("commit(-1)", number).due("remove(" + number + ")", 0);
         }
         two.due("commit(-1)", 38).due("commit(38)", 39).due("find()", 38).due("remove(38)", 1).due("find()", 39);
+    }
+
+    // "whose text is equal to the working text": and no other
+    private static void everyPairOfSmallTexts() {
+        for (int[] text : Texts.small()) {
+            for (int[] working : Texts.small()) {
+                new Run("one text held").write(text).due("commit(-1)", 0).write(working)
+                    .due("find()", Arrays.equals(text, working) ? 0 : -1);
+            }
+        }
+    }
+
+    // "equal": in all bits of each line
+    private static void linesThatDifferLittle() {
+        for (int bit = 1; bit <= 128; bit *= 2) {
+            for (int place = 0; place < 10; place++) {
+                int[] text = Texts.count(10);
+                Run run = new Run("lines that differ by " + bit + " at " + place).write(text).due("commit(-1)", 0);
+                run.due("take(" + place + ")", text[place]).due("put(" + place + ", " + (text[place] ^ bit) + ")", 10);
+                run.due("find()", -1).due("take(" + place + ")", text[place] ^ bit);
+                run.due("put(" + place + ", " + text[place] + ")", 10).due("find()", 0);
+            }
+        }
+    }
+
+    // "Nothing is promised beyond the answers and state changes described above": this call has none
+    private static void asksOnly() {
+        new Run("find changes nothing").write(1, 2).due("commit(-1)", 0).write(1).due("commit(0)", 1)
+            .due("commit(1)", 2).asked("find()", 1).asked("find()", 1).write(3).asked("find()", -1);
     }
 }

@@ -6,7 +6,8 @@ final class Run {
     private static int wrong = 0;
 
     private final Counted object = new Counted();
-    private final List<Call> notRefused = new ArrayList<>();
+    // The calls of which it is not said that they change nothing.
+    private final List<Call> changing = new ArrayList<>();
     private final String name;
     private List<String> due;
 
@@ -15,7 +16,7 @@ final class Run {
     }
 
     Run due(String call, int want) {
-        notRefused.add(Call.read(call));
+        changing.add(Call.read(call));
         due = null;
         answerDue(call, want);
         return this;
@@ -23,9 +24,14 @@ final class Run {
 
     /** The call answers -1, and the object stays as one on which it was never made. */
     Run refused(String call) {
-        answerDue(call, -1);
+        return asked(call, -1);
+    }
+
+    /** The call answers as is due, and the object stays as one on which it was never made. */
+    Run asked(String call, int want) {
+        answerDue(call, want);
         if (due == null) {
-            due = Portrait.after(notRefused);
+            due = Portrait.after(changing);
         }
         List<String> got = Portrait.after(object.made());
         if (!got.equals(due)) {
@@ -37,10 +43,10 @@ final class Run {
     /** Empties the working text and puts these lines in. */
     Run write(int... lines) {
         Call askLines = Call.read("lines()");
-        notRefused.add(askLines);
+        changing.add(askLines);
         for (int left = object.make(askLines); left > 0; left--) {
             Call takeFirst = Call.read("take(0)");
-            notRefused.add(takeFirst);
+            changing.add(takeFirst);
             object.make(takeFirst);
         }
         for (int i = 0; i < lines.length; i++) {
